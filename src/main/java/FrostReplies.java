@@ -545,7 +545,11 @@ public final class FrostReplies {
         int beginningWith(int[] row, int from, int n) {
             int bits = 0;
             for (int w = 0; w < words; w++) {
-                if (n <= sizeOf(w) && changesAt(w, row, from, n) == 0) {
+                boolean begins = n <= got(sizes, w);
+                for (int k = 0; k < n && begins; k++) {
+                    begins = got(letters, w * WORD_ROOM + k) == got(row, from + k);
+                }
+                if (begins) {
                     bits |= bit(w);
                 }
             }
@@ -855,14 +859,21 @@ public final class FrostReplies {
             few = size;
             startOver();
             for (int rule = FIRST_RULE; rule <= LAST_RULE; rule++) {
-                int misses = isRule(rule) ? missesOf(rule, last, few) : few + 1;
-                if (misses < few) {
-                    few = misses;
-                    startOver();
+                if (isRule(rule)) {
+                    weighOne(rule, last);
                 }
-                if (misses == few) {
-                    addRule(rule, last);
-                }
+            }
+        }
+
+        private void weighOne(int rule, int last) {
+            int missed = missedBy(rule, last);
+            int misses = Integer.bitCount(missed);
+            if (misses < few) {
+                few = misses;
+                startOver();
+            }
+            if (misses == few) {
+                addRule(rule, last, missed);
             }
         }
 
@@ -873,19 +884,19 @@ public final class FrostReplies {
             mostAge = 0;
         }
 
-        private void addRule(int rule, int last) {
+        private void addRule(int rule, int last, int missed) {
             rules++;
-            forgedPlaces &= missedPlaces(rule, last);
-            int age = last * (rule / 100 % 10) + rule % 10;
-            leastAge = Math.min(leastAge, age);
-            mostAge = Math.max(mostAge, age);
+            forgedPlaces &= placesOf(missed);
+            int years = last * (rule / 100 % 10) + rule % 10;
+            leastAge = Math.min(leastAge, years);
+            mostAge = Math.max(mostAge, years);
         }
 
         private int ruleOf(int k) {
             int last = lastPlace();
             int seen = 0;
             for (int rule = FIRST_RULE; rule <= LAST_RULE; rule++) {
-                if (isRule(rule) && missesOf(rule, last, few) == few) {
+                if (isRule(rule) && Integer.bitCount(missedBy(rule, last)) == few) {
                     if (seen == k) {
                         return rule;
                     }
@@ -907,31 +918,32 @@ public final class FrostReplies {
             return last;
         }
 
-        /** How many FACTS are not so by a RULE; above the limit it may be more than what is answered. */
-        private int missesOf(int rule, int last, int limit) {
+        /** FACTS (bits) that are not so by a RULE; no more are looked for once there are too many for a best one. */
+        private int missedBy(int rule, int last) {
+            int first = rule / 1000;
+            int gap = rule / 100 % 10;
+            int wear = rule / 10 % 10;
+            int since = rule % 10;
+            int missed = 0;
             int misses = 0;
-            for (int k = 0; k < size && misses <= limit; k++) {
-                if (depthBy(rule, last - got(places, k)) != got(depths, k)) {
+            for (int k = 0; k < size && misses <= few && wear > 0; k++) {
+                int years = (last - got(places, k)) * gap + since;
+                if (Math.max(0, first - years / wear) != got(depths, k)) {
+                    missed |= bit(k);
                     misses++;
                 }
             }
-            return misses;
+            return missed;
         }
 
-        private int missedPlaces(int rule, int last) {
+        private int placesOf(int facts) {
             int bits = 0;
             for (int k = 0; k < size; k++) {
-                if (depthBy(rule, last - got(places, k)) != got(depths, k)) {
+                if (has(facts, k)) {
                     bits |= bit(got(places, k));
                 }
             }
             return bits;
-        }
-
-        private static int depthBy(int rule, int frostsSince) {
-            int w = rule / 10 % 10;
-            int years = frostsSince * (rule / 100 % 10) + rule % 10;
-            return w == 0 ? 0 : Math.max(0, rule / 1000 - years / w);
         }
     }
 
@@ -1343,7 +1355,7 @@ public final class FrostReplies {
         private void needRow(int start, int size, int most) {
             boolean fine = size <= most;
             for (int i = 0; i < size && fine; i++) {
-                fine = letterAt(start + i) < ALPHABET;
+                fine = got(tape, start + i) < 'a' + ALPHABET;
             }
             if (!fine) {
                 note(2, start);
@@ -1501,24 +1513,16 @@ public final class FrostReplies {
         }
 
         private boolean overgrow(int stone) {
-            int word = wholeWord(stone);
-            if (word == NONE) {
-                return false;
-            }
-            put(pauses, stone, got(sizes, stone));
-            put(wordsTold, stone, got(wordsTold, stone) + 1);
-            put(lastTold, stone, word);
-            return true;
-        }
-
-        private int wholeWord(int stone) {
             int bits = fitting(stone, open(stone));
             for (int w = 0; w < hill.words; w++) {
                 if (has(bits, w) && hill.sizeOf(w) == open(stone)) {
-                    return w;
+                    put(pauses, stone, got(sizes, stone));
+                    put(wordsTold, stone, got(wordsTold, stone) + 1);
+                    put(lastTold, stone, w);
+                    return true;
                 }
             }
-            return NONE;
+            return false;
         }
 
         private boolean chipOff(int stone) {
