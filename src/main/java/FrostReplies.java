@@ -52,6 +52,7 @@ public final class FrostReplies {
     private final Ground ground = new Ground();
     private final Ear ear = new Ear();
     private final Yard yard = new Yard();
+    private final Rules rules = new Rules();
 
     public FrostReplies() {
     }
@@ -218,7 +219,11 @@ public final class FrostReplies {
 
     public int forged(int log, int what) {
         Log asked = told.logOf(log);
-        return asked == null ? ABSENT : asked.judge(what);
+        if (asked == null) {
+            return ABSENT;
+        }
+        rules.weigh(asked);
+        return rules.judge(what);
     }
 
     public long chance(int n, int y, int p, boolean under) {
@@ -318,8 +323,8 @@ public final class FrostReplies {
         if (asked == null) {
             return NONE;
         }
-        asked.weigh();
-        return most ? asked.mostAge : asked.leastAge;
+        rules.weigh(asked);
+        return rules.years(most);
     }
 
     public long waits(int n, int p, boolean under) {
@@ -790,25 +795,10 @@ public final class FrostReplies {
         }
     }
 
-    /** FACTS, and what the RULES that FIT them best have in common, once that was asked. */
     private static final class Log {
-        private static final int FIRST_RULE = 1110;
-        private static final int LAST_RULE = 9999;
-
         int size;
         final int[] places = new int[FACTS];
         final int[] depths = new int[FACTS];
-        boolean weighed;
-        int few;
-        int rules;
-        int forgedPlaces;
-        int leastAge;
-        int mostAge;
-
-        void clear() {
-            size = 0;
-            weighed = false;
-        }
 
         void copy(Log other) {
             if (other == null) {
@@ -817,12 +807,6 @@ public final class FrostReplies {
             size = other.size;
             copyRow(other.places, places);
             copyRow(other.depths, depths);
-            weighed = other.weighed;
-            few = other.few;
-            rules = other.rules;
-            forgedPlaces = other.forgedPlaces;
-            leastAge = other.leastAge;
-            mostAge = other.mostAge;
         }
 
         int look(int k, int what) {
@@ -839,111 +823,159 @@ public final class FrostReplies {
             }
         }
 
-        int judge(int what) {
-            weigh();
-            switch (what) {
-                case 0: return few;
-                case 1: return rules;
-                case 2: return forgedPlaces;
-                default: return what >= 10 && what - 10 < rules ? ruleOf(what - 10) : ABSENT;
-            }
-        }
-
-        /** Goes through all RULES once; later questions find what it found. */
-        void weigh() {
-            if (weighed) {
-                return;
-            }
-            weighed = true;
-            int last = lastPlace();
-            few = size;
-            startOver();
-            for (int rule = FIRST_RULE; rule <= LAST_RULE; rule++) {
-                if (isRule(rule)) {
-                    weighOne(rule, last);
-                }
-            }
-        }
-
-        private void weighOne(int rule, int last) {
-            int missed = missedBy(rule, last);
-            int misses = Integer.bitCount(missed);
-            if (misses < few) {
-                few = misses;
-                startOver();
-            }
-            if (misses == few) {
-                addRule(rule, last, missed);
-            }
-        }
-
-        private void startOver() {
-            rules = 0;
-            forgedPlaces = (1 << PLACES) - 1;
-            leastAge = LAST_RULE;
-            mostAge = 0;
-        }
-
-        private void addRule(int rule, int last, int missed) {
-            rules++;
-            forgedPlaces &= placesOf(missed);
-            int years = last * (rule / 100 % 10) + rule % 10;
-            leastAge = Math.min(leastAge, years);
-            mostAge = Math.max(mostAge, years);
-        }
-
-        private int ruleOf(int k) {
-            int last = lastPlace();
-            int seen = 0;
-            for (int rule = FIRST_RULE; rule <= LAST_RULE; rule++) {
-                if (isRule(rule) && Integer.bitCount(missedBy(rule, last)) == few) {
-                    if (seen == k) {
-                        return rule;
-                    }
-                    seen++;
-                }
-            }
-            return ABSENT;
-        }
-
-        private static boolean isRule(int rule) {
-            return rule / 1000 > 0 && rule / 100 % 10 > 0 && rule / 10 % 10 > 0;
-        }
-
-        private int lastPlace() {
+        int lastPlace() {
             int last = 0;
             for (int k = 0; k < size; k++) {
                 last = Math.max(last, got(places, k));
             }
             return last;
         }
+    }
 
-        /** FACTS (bits) that are not so by a RULE; no more are looked for once there are too many for a best one. */
-        private int missedBy(int rule, int last) {
-            int first = rule / 1000;
-            int gap = rule / 100 % 10;
-            int wear = rule / 10 % 10;
-            int since = rule % 10;
-            int missed = 0;
-            int misses = 0;
-            for (int k = 0; k < size && misses <= few && wear > 0; k++) {
-                int years = (last - got(places, k)) * gap + since;
-                if (Math.max(0, first - years / wear) != got(depths, k)) {
-                    missed |= bit(k);
-                    misses++;
-                }
-            }
-            return missed;
+    /**
+     * The RULES by one LOG. A PACE is what a RULE has beside s: g, w, t, by numbers; all nine s of a PACE are looked at
+     * at once, as the DEPTH that a FACT tells leaves but one s, or all up to one.
+     */
+    private static final class Rules {
+        private static final int PACES = 9 * 9 * 10;
+        private static final int STARTS = 9;
+
+        private Log log = new Log();
+        private int last;
+        private int most;
+        private final int[] hits = new int[STARTS + 1];
+        private final int[] mostByPace = new int[PACES];
+        private final int[] startsByPace = new int[PACES];
+
+        private static int gap(int pace) {
+            return pace / 90 + 1;
         }
 
-        private int placesOf(int facts) {
-            int bits = 0;
-            for (int k = 0; k < size; k++) {
-                if (has(facts, k)) {
-                    bits |= bit(got(places, k));
+        private static int wear(int pace) {
+            return pace / 10 % 9 + 1;
+        }
+
+        private static int since(int pace) {
+            return pace % 10;
+        }
+
+        void weigh(Log asked) {
+            log = asked;
+            last = log.lastPlace();
+            most = 0;
+            for (int pace = 0; pace < PACES; pace++) {
+                countHits(pace);
+                keepBest(pace);
+                most = Math.max(most, got(mostByPace, pace));
+            }
+        }
+
+        /** How many FACTS are so, by s. */
+        private void countHits(int pace) {
+            Arrays.fill(hits, 0);
+            for (int k = 0; k < log.size; k++) {
+                int depth = got(log.depths, k);
+                int less = lessBy(pace, got(log.places, k));
+                int highest = Math.min(STARTS, less + depth);
+                int lowest = depth == 0 ? 1 : less + depth;
+                for (int s = lowest; s <= highest; s++) {
+                    put(hits, s, got(hits, s) + 1);
+                }
+            }
+        }
+
+        private int lessBy(int pace, int place) {
+            int wear = wear(pace);
+            return wear < 1 ? 0 : ((last - place) * gap(pace) + since(pace)) / wear;
+        }
+
+        private void keepBest(int pace) {
+            int best = 0;
+            int starts = 0;
+            for (int s = 1; s <= STARTS; s++) {
+                int here = got(hits, s);
+                if (here > best) {
+                    best = here;
+                    starts = 0;
+                }
+                if (here == best) {
+                    starts |= bit(s);
+                }
+            }
+            put(mostByPace, pace, best);
+            put(startsByPace, pace, starts);
+        }
+
+        /** All s (bits) by which a PACE FITS best. */
+        private int startsOf(int pace) {
+            return got(mostByPace, pace) == most ? got(startsByPace, pace) : 0;
+        }
+
+        int judge(int what) {
+            switch (what) {
+                case 0: return log.size - most;
+                case 1: return howMany();
+                case 2: return missedByAll();
+                default: return what >= 10 ? ruleOf(what - 10) : ABSENT;
+            }
+        }
+
+        private int howMany() {
+            int sum = 0;
+            for (int pace = 0; pace < PACES; pace++) {
+                sum += Integer.bitCount(startsOf(pace));
+            }
+            return sum;
+        }
+
+        private int ruleOf(int k) {
+            int seen = 0;
+            for (int s = 1; s <= STARTS; s++) {
+                for (int pace = 0; pace < PACES; pace++) {
+                    if (has(startsOf(pace), s)) {
+                        if (seen == k) {
+                            return 1000 * s + 100 * gap(pace) + 10 * wear(pace) + since(pace);
+                        }
+                        seen++;
+                    }
+                }
+            }
+            return ABSENT;
+        }
+
+        private int missedByAll() {
+            int bits = (1 << PLACES) - 1;
+            for (int pace = 0; pace < PACES && bits != 0; pace++) {
+                for (int s = 1; s <= STARTS; s++) {
+                    if (has(startsOf(pace), s)) {
+                        bits &= missedPlaces(s, pace);
+                    }
                 }
             }
             return bits;
+        }
+
+        private int missedPlaces(int s, int pace) {
+            int bits = 0;
+            for (int k = 0; k < log.size; k++) {
+                int place = got(log.places, k);
+                if (Math.max(0, s - lessBy(pace, place)) != got(log.depths, k)) {
+                    bits |= bit(place);
+                }
+            }
+            return bits;
+        }
+
+        int years(boolean oldest) {
+            int found = NONE;
+            for (int pace = 0; pace < PACES; pace++) {
+                int years = last * gap(pace) + since(pace);
+                boolean better = found == NONE || (oldest ? years > found : years < found);
+                if (better && startsOf(pace) != 0) {
+                    found = years;
+                }
+            }
+            return found;
         }
     }
 
@@ -1146,7 +1178,7 @@ public final class FrostReplies {
             hill.clear();
             century.size = 0;
             lines.size = 0;
-            log.clear();
+            log.size = 0;
             boolean goesOn = true;
             // Each round takes a byte at least.
             for (int i = 0; i <= TAPE_ROOM && goesOn; i++) {
