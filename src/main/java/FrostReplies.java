@@ -1937,7 +1937,6 @@ public final class FrostReplies {
 
         int longestChain(Hill hill) {
             int longest = 0;
-            put(heads, 0, 0);
             for (int set = 1; set <= hill.all(); set++) {
                 put(heads, set, headsOf(hill, set));
                 if (got(heads, set) != 0) {

@@ -26,6 +26,7 @@ public final class OracleTest {
             test.alphabet = "abcdef".substring(0, 1 + test.random.nextInt(6));
             test.run();
             test.runOfTwice();
+            test.runOfRules();
             if (test.wrong) {
                 failures++;
                 System.out.println("OracleTest run " + run + ":\n" + test.calls);
@@ -44,6 +45,18 @@ public final class OracleTest {
             tell(0, i == 0 ? -1 : 0, hillText());
             due("twice", x.twice(0), o.twice(0));
         }
+    }
+
+    /** All that is asked of one LOG more. */
+    private void runOfRules() {
+        tell(3, 0, logText());
+        for (int what = 0; what < 3; what++) {
+            due("forged " + what, x.forged(0, what), o.forged(0, what));
+        }
+        int k = 10 + below(Math.max(1, o.forged(0, 1)));
+        due("forged " + k, x.forged(0, k), o.forged(0, k));
+        due("age least", x.age(0, false), o.age(0, false));
+        due("age most", x.age(0, true), o.age(0, true));
     }
 
     private void run() {
@@ -203,8 +216,9 @@ public final class OracleTest {
         int facts = below(9);
         int start = 1 + below(9);
         int fall = below(3);
+        int places = coin() ? 12 : 1 + below(4);
         for (int i = 0; i < facts; i++) {
-            int place = below(12);
+            int place = below(places);
             int depth = below(4) == 0 ? below(10) : Math.min(9, Math.max(0, start - fall * (11 - place) / 4));
             s.append("depth ").append(place).append(' ').append(depth).append(";");
         }

@@ -617,6 +617,7 @@ public final class PromiseTest {
         due("no hill", new FrostReplies().twice(0), NONE);
         due("5 3 and 3 5", hillOf("word aaa 1;word aaaaa 1;follows 0 1;follows 1 0;").twice(0), 8);
         due("6 6 6 6 and 5 5 5 5 4", hillOf("word aaaaaa 1;word aaaaa 1;word aaaa 1;follows 0 0;follows 1 1;follows 1 2;").twice(0), 24);
+        due("5 5 5 5 5 and 6 6 6 6 1 are 25", hillOf("word aaaaaa 1;word aaaaa 1;word a 1;follows 0 0;follows 0 2;follows 1 1;").twice(0), NONE);
         due("no hill -1", hillOf("").twice(-1), NONE);
     }
 
