@@ -465,19 +465,19 @@ public final class FrostReplies {
             Arrays.fill(answers, 0);
         }
 
-        void copy(Hill other) {
-            if (other == null) {
+        static void copy(Hill from, Hill to) {
+            if (from == null || to == null) {
                 return;
             }
-            stones = other.stones;
-            words = other.words;
-            followsTold = other.followsTold;
-            wordsToldOf = other.wordsToldOf;
-            copyRow(other.sizes, sizes);
-            copyRow(other.often, often);
-            copyRow(other.follows, follows);
-            copyRow(other.letters, letters);
-            copyRow(other.answers, answers);
+            to.stones = from.stones;
+            to.words = from.words;
+            to.followsTold = from.followsTold;
+            to.wordsToldOf = from.wordsToldOf;
+            copyRow(from.sizes, to.sizes);
+            copyRow(from.often, to.often);
+            copyRow(from.follows, to.follows);
+            copyRow(from.letters, to.letters);
+            copyRow(from.answers, to.answers);
         }
 
         int look(int what) {
@@ -709,14 +709,14 @@ public final class FrostReplies {
         final int[] stones = new int[DEEDS];
         final int[] letters = new int[DEEDS];
 
-        void copy(Century other) {
-            if (other == null) {
+        static void copy(Century from, Century to) {
+            if (from == null || to == null) {
                 return;
             }
-            size = other.size;
-            copyRow(other.kinds, kinds);
-            copyRow(other.stones, stones);
-            copyRow(other.letters, letters);
+            to.size = from.size;
+            copyRow(from.kinds, to.kinds);
+            copyRow(from.stones, to.stones);
+            copyRow(from.letters, to.letters);
         }
 
         int look(int k, int what) {
@@ -740,13 +740,13 @@ public final class FrostReplies {
         final int[] sizes = new int[LINES];
         final int[] letters = new int[LINES * LINE_ROOM];
 
-        void copy(Lines other) {
-            if (other == null) {
+        static void copy(Lines from, Lines to) {
+            if (from == null || to == null) {
                 return;
             }
-            size = other.size;
-            copyRow(other.sizes, sizes);
-            copyRow(other.letters, letters);
+            to.size = from.size;
+            copyRow(from.sizes, to.sizes);
+            copyRow(from.letters, to.letters);
         }
 
         boolean hasLine(int k) {
@@ -800,13 +800,13 @@ public final class FrostReplies {
         final int[] places = new int[FACTS];
         final int[] depths = new int[FACTS];
 
-        void copy(Log other) {
-            if (other == null) {
+        static void copy(Log from, Log to) {
+            if (from == null || to == null) {
                 return;
             }
-            size = other.size;
-            copyRow(other.places, places);
-            copyRow(other.depths, depths);
+            to.size = from.size;
+            copyRow(from.places, to.places);
+            copyRow(from.depths, to.depths);
         }
 
         int look(int k, int what) {
@@ -1007,10 +1007,10 @@ public final class FrostReplies {
             faultPlace = other.faultPlace;
             copyRow(other.counts, counts);
             for (int i = 0; i < MOST_OF_A_SORT; i++) {
-                hills[i].copy(other.hills[i]);
-                centuries[i].copy(other.centuries[i]);
-                lines[i].copy(other.lines[i]);
-                logs[i].copy(other.logs[i]);
+                Hill.copy(other.hills[i], hills[i]);
+                Century.copy(other.centuries[i], centuries[i]);
+                Lines.copy(other.lines[i], lines[i]);
+                Log.copy(other.logs[i], logs[i]);
             }
         }
 
@@ -1031,10 +1031,10 @@ public final class FrostReplies {
             }
             put(counts, sort, Math.max(got(counts, sort), slot + 1));
             switch (sort) {
-                case HILLS: hills[slot].copy(read.hill); break;
-                case CENTURIES: centuries[slot].copy(read.century); break;
-                case LINE_TEXTS: lines[slot].copy(read.lines); break;
-                case LOGS: logs[slot].copy(read.log); break;
+                case HILLS: Hill.copy(read.hill, hills[slot]); break;
+                case CENTURIES: Century.copy(read.century, centuries[slot]); break;
+                case LINE_TEXTS: Lines.copy(read.lines, lines[slot]); break;
+                case LOGS: Log.copy(read.log, logs[slot]); break;
                 default: break;
             }
         }
