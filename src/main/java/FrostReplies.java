@@ -78,6 +78,9 @@ public final class FrostReplies {
     }
 
     public int text(int sort, int at) {
+        int length = told.length;
+        // the tape is taken by every call, also by one that reads no text
+        told.length = 0;
         told.fault = 0;
         told.faultPlace = NONE;
         int many = told.many(sort);
@@ -86,8 +89,7 @@ public final class FrostReplies {
         if (!there && !further) {
             return ABSENT;
         }
-        reader.read(told.tape, told.length, sort);
-        told.length = 0;
+        reader.read(told.tape, length, sort);
         told.fault = reader.fault;
         told.faultPlace = reader.faultPlace;
         if (reader.fault != 0) {

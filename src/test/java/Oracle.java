@@ -81,11 +81,9 @@ final class Oracle {
     int text(int sort, int at) {
         fault = 0;
         place = -1;
-        if (sort < 0 || sort > 3) {
-            return -2;
-        }
-        List<Object> all = sorts.get(sort);
-        if (at == -1 ? all.size() == 2 : at < 0 || at >= all.size()) {
+        List<Object> all = sort < 0 || sort > 3 ? null : sorts.get(sort);
+        if (all == null || (at == -1 ? all.size() == 2 : at < 0 || at >= all.size())) {
+            tape = "";
             return -2;
         }
         Object read = read(sort);
