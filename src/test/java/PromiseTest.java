@@ -136,6 +136,22 @@ public final class PromiseTest {
         due("text", x.text(Say.LINES, NONE), 0);
         due("two", x.line(0, NONE, 0), 2);
         due("the tape is empty", x.end(1), NONE);
+        cut("line abcd;", 7, Say.LINES, 7);
+        cut("lines", 4, Say.LINES, 4);
+        cut("line abc ;", 8, Say.LINES, 8);
+        cut("depth 1 234;", 10, Say.LOG, 10);
+        cut("depth 1 2;", 9, Say.LOG, 9);
+        cut("depth 12;", 7, Say.LOG, 7);
+    }
+
+    /** What is cut off belongs to no token: no text goes on with its end. */
+    private static void cut(String text, int n, int sort, int place) {
+        FrostReplies x = new FrostReplies();
+        Say.tape(x, text);
+        due("cut at " + n, x.end(n), n);
+        due("cut: " + text, x.text(sort, NONE), NONE);
+        due("its fault", x.fault(0), 1);
+        due("its place", x.fault(1), place);
     }
 
     private static void texts() {

@@ -5,6 +5,9 @@ final class Say {
     static final int LINES = 2;
     static final int LOG = 3;
 
+    /** What is behind a text and cut off by end(): signs with which its last token would go on. */
+    private static final String LEFT_OVER = "a7b;";
+
     private Say() {
     }
 
@@ -25,7 +28,7 @@ final class Say {
     static int four(String text, int at) {
         int number = 0;
         for (int i = at; i < at + 4; i++) {
-            number = number << 8 | (i < text.length() ? text.charAt(i) & 255 : 0);
+            number = number << 8 | (i < text.length() ? text.charAt(i) & 255 : LEFT_OVER.charAt(i % 4));
         }
         return number;
     }
