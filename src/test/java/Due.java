@@ -97,9 +97,7 @@ final class Due {
 
     private void compareWith(String document) {
         for (String part : document.split("\n## ")) {
-            if (part.startsWith("Terms") || part.startsWith("Promise")) {
-                compareWith(part.substring(0, part.indexOf('\n')), oneLine(part.substring(part.indexOf('\n'))));
-            }
+            compareWith(part.substring(0, part.indexOf('\n')), oneLine(part.substring(part.indexOf('\n'))));
         }
         for (String[] quote : quotes) {
             complain("not in the document: ", String.join(": ", quote));
@@ -117,9 +115,12 @@ final class Due {
                 quotes.remove(q);
             }
         }
-        int from = 0;
+        int from = headline.startsWith("Terms") || headline.startsWith("Promise") ? 0 : text.length();
         for (String sentence : text.split("(?<=[A-Za-z)'0-9][.;:]) ")) {
             int at = text.indexOf(sentence, from);
+            if (at < 0) {
+                return;
+            }
             from = at + sentence.length();
             if (!anyOf(quoted, at, from) && sentence.matches(".*[A-Za-z].*")) {
                 complain("no test of " + headline + ": ", sentence);

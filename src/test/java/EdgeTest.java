@@ -14,6 +14,7 @@ public final class EdgeTest {
         EdgesOfWords.run(due);
         EdgesOfLogs.run(due);
         EdgesOfRefusals.run(due);
+        EdgesOfOrder.run(due);
         int wrong = due.wrongs();
         if (wrong > 0) {
             System.out.println(wrong + " answers are not as due");

@@ -239,7 +239,10 @@ final class EdgesOfLines {
         nextOf(due, "word ac 2;word ab 2;", "a", 1, 1);
         nextOf(due, "word ab 3;word ac 2;word acd 2;", "a", 1, 2);
         nextOf(due, "word ab 4;word ac 2;word acd 2;", "a", 1, 1);
+        nextOf(due, "word ab 1;word aa 1;", "a", 1, 0);
+        nextOf(due, "word ab 1;word aa 2;", "a", 1, 0);
         nextOf(due, "word a 99;word af 1;", "a", 1, 5);
+        nextOf(due, "word a 99;word af 2;word aa 1;", "a", 1, 5);
         nextOf(due, "word af 1;word ba 99;word aa 0;", "a", 1, 5);
         nextOf(due, "word ac 0;word ab 0;", "a", 1, 1);
         nextOf(due, "word a 1;", "a", 1, NONE);

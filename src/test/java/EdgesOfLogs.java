@@ -145,6 +145,8 @@ final class EdgesOfLogs {
         due.is("of two places", log(due, 8, 9, 8, 8, 8, 9, 0, 9, 0, 8, 0, 9).forged(0, 2), 257);
         due.is("of twelve frosts the first", log(due, 11, 9, 11, 9, 0, 9).forged(0, 2), 1);
         due.is("of twelve frosts the last", log(due, 11, 1, 5, 4, 5, 4).forged(0, 2), 2048);
+        // by 9910 alone: PLACES 1 and 0 are 0 deep, as they would be below 0
+        due.is("of the last place alone", log(due, 2, 9, 2, 9, 2, 8, 1, 0, 0, 0).forged(0, 2), 4);
         // 9 deep are nine frosts at the most, so the first three are not
         due.is("of twelve frosts three", log(due, 11, 9, 0, 9, 0, 9, 1, 9, 2, 9, 3, 9).forged(0, 2), 7);
     }
@@ -200,6 +202,7 @@ final class EdgesOfLogs {
         age(due, log(due, 11, 9, 0, 8), 11, 17);
         age(due, log(due, 0, 8, 11, 9), 11, 17);
         age(due, log(due, 8, 9, 0, 9), 8, 8);
+        age(due, log(due, 1, 9, 0, 8), 1, 17);
         age(due, log(due, 1, 9, 0, 0), 9, 9);
         age(due, log(due, 11, 9, 10, 0), 99, 99);
     }
@@ -273,15 +276,18 @@ final class EdgesOfLogs {
         due.is("D", x.chance(1, 2, 5, true), 4);
         due.by("NONE: other numbers.");
         for (boolean under : new boolean[] {false, true}) {
-            for (int n : new int[] {Due.MIN, -1, 0, 13, 14, Due.MAX}) {
-                due.is("n " + n, x.chance(n, 5, 5, under), NONE);
+            for (int ok = 1; ok <= 9; ok++) {
+                for (int n : new int[] {Due.MIN, -1, 0, 13, 14, Due.MAX}) {
+                    due.is("n " + n, x.chance(n, ok, ok, under), NONE);
+                }
+                for (int y : new int[] {Due.MIN, -2, -1, 10, 11, Due.MAX}) {
+                    due.is("y " + y, x.chance(ok, y, ok, under), NONE);
+                }
+                for (int p : new int[] {Due.MIN, -2, -1, 11, 12, Due.MAX}) {
+                    due.is("p " + p, x.chance(ok, ok, p, under), NONE);
+                }
             }
-            for (int y : new int[] {Due.MIN, -2, -1, 10, 11, Due.MAX}) {
-                due.is("y " + y, x.chance(5, y, 5, under), NONE);
-            }
-            for (int p : new int[] {Due.MIN, -2, -1, 11, 12, Due.MAX}) {
-                due.is("p " + p, x.chance(5, 5, p, under), NONE);
-            }
+            x = new FrostReplies();
         }
         due.is("n 12", x.chance(12, 9, 10, true), 1);
         due.is("n 1, y 0, p 0", x.chance(1, 0, 0, true), 1);

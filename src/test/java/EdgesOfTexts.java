@@ -315,6 +315,7 @@ final class EdgesOfTexts {
                 }
             }
         }
+        keysChanged(due);
         due.by("(word: LETTERS, OFTEN; follows: a WORD, 0 .. 9, one that may come behind it; asks: a QUESTION, 0 .. 5, a WORD)");
         FrostReplies x = due.hill("word abc 12;word b 3;asks 1 0;follows 1 0;");
         due.is("letters", x.hill(0, 10), 3);
@@ -342,6 +343,24 @@ final class EdgesOfTexts {
         due.fault(LINES, "line line;", 2, 5);
         due.fault(CENTURY, "frost 0 frost;", 2, 8);
         due.fault(LINES, "line Abc;", 1, 5);
+    }
+
+    /** Each key with one letter changed, left out, put in: no text goes on with it. */
+    private static void keysChanged(Due due) {
+        for (int sort = 0; sort < 4; sort++) {
+            for (String statement : STATEMENTS[sort]) {
+                int end = statement.indexOf(' ');
+                for (int at = 0; at <= end; at++) {
+                    String ahead = statement.substring(0, at);
+                    due.fault(sort, ahead + "z" + statement.substring(at), 1, 0);
+                    if (at < end) {
+                        due.fault(sort, ahead + "z" + statement.substring(at + 1), 1, 0);
+                        due.fault(sort, ahead + statement.substring(at + 1), 1, 0);
+                        due.fault(sort, ahead + statement.substring(at, at + 1).toUpperCase() + statement.substring(at + 1), 1, 0);
+                    }
+                }
+            }
+        }
     }
 
     /** A statement cut behind any of its tokens: no text goes on with the end. */

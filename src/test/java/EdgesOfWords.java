@@ -73,6 +73,14 @@ final class EdgesOfWords {
                 }
             }
         }
+        // 1 more LETTER and 0; 1 and 2; 2 and 1 and 3 by 2
+        soonestOf(due, words + "asks 0 0;asks 0 2;asks 1 0;", 1);
+        soonestOf(due, words + "asks 0 0;asks 0 2;asks 1 0;asks 1 1;", 0);
+        soonestOf(due, words + "asks 0 0;asks 0 1;asks 1 0;asks 1 2;asks 2 0;asks 2 1;asks 2 2;", 1);
+        soonestOf(due, words + "asks 3 0;asks 3 1;asks 2 0;asks 2 1;asks 2 2;asks 1 0;asks 1 1;", 2);
+        // 3 by 2 of much, 2 of little
+        soonestOf(due, "word a 50;word ab 50;word cd 1;word ce 1;asks 0 0;asks 0 1;asks 1 2;asks 1 3;", 0);
+        soonestOf(due, "word a 50;word ab 50;word cd 1;word ce 1;asks 1 0;asks 1 1;asks 0 2;asks 0 3;", 1);
         // 5 by 3 and 3 by 2
         soonestOf(due, "word a 1;word ab 2;word ac 1;asks 0 0;asks 0 1;asks 1 0;asks 1 2;", 1);
         soonestOf(due, words + "asks 4 3;", NONE);
@@ -116,6 +124,10 @@ final class EdgesOfWords {
         twiceOf(due, "word a 1;word b 1;word ab 1;follows 0 1;", 2);
         twiceOf(due, "word ab 1;word c 1;word a 1;word bc 1;word abc 1;", 3);
         twiceOf(due, "word abcdef 1;word abc 1;word def 1;", 6);
+        twiceOf(due, "word abcdef 1;word ab 1;word cd 1;word ef 1;", 6);
+        twiceOf(due, "word abc 1;word ab 1;word cde 1;word de 1;", 5);
+        twiceOf(due, "word abc 1;word ab 1;word cdef 1;word de 1;word f 1;", 6);
+        twiceOf(due, "word abc 1;word ab 1;word cde 1;word df 1;", NONE);
         twiceOf(due, "word abcdef 1;word abc 1;word defabc 1;word def 1;follows 0 1;follows 1 2;", 9);
         String alone = "follows 0 0;follows 1 1;";
         twiceOf(due, "word aaaaa 1;word aaaa 1;" + alone, 20);

@@ -25,11 +25,13 @@ public final class OracleTest {
             OracleTest test = new OracleTest(run);
             test.alphabet = "abcdef".substring(0, 1 + test.random.nextInt(6));
             test.run();
-            test.runOfTwice();
-            test.runOfRules();
-            if (test.wrong) {
+            // an object is good for 512 calls, so these have one of their own
+            OracleTest more = new OracleTest(RUNS + run);
+            more.runOfTwice();
+            more.runOfRules();
+            if (test.wrong || more.wrong) {
                 failures++;
-                System.out.println("OracleTest run " + run + ":\n" + test.calls);
+                System.out.println("OracleTest run " + run + ":\n" + (test.wrong ? test : more).calls);
             }
         }
         if (failures > 0) {
@@ -49,7 +51,7 @@ public final class OracleTest {
 
     /** All that is asked of one LOG more. */
     private void runOfRules() {
-        tell(3, 0, logText());
+        tell(3, -1, logText());
         for (int what = 0; what < 3; what++) {
             due("forged " + what, x.forged(0, what), o.forged(0, what));
         }

@@ -53,8 +53,11 @@ public final class RobustTest {
         for (int i = 0; i < CALLS; i++) {
             if (random.nextInt(12) == 0 && i < CALLS - 40) {
                 String text = TEXTS[random.nextInt(TEXTS.length)];
-                Say.tape(x, random.nextInt(4) == 0 ? text.substring(random.nextInt(text.length() + 1)) : text);
+                text = random.nextInt(4) == 0 ? text.substring(random.nextInt(text.length() + 1)) : text;
+                Say.tape(x, text);
                 answers.add(x.text(random.nextInt(4), random.nextInt(3) - 1));
+                // the calls that brought it to the tape, so that there are 512 in all
+                i += text.length() / 20 + 3;
                 continue;
             }
             Method method = methods.get(random.nextInt(methods.size()));
