@@ -11,6 +11,8 @@ final class Due {
     static final int MIN = Integer.MIN_VALUE;
     static final int MAX = Integer.MAX_VALUE;
 
+    /** So many wrong answers are enough to see. */
+    private static final int ENOUGH = 200;
     private static final Path DOCUMENT = Path.of("../shared/DOC.md");
 
     private final List<String[]> quotes = new ArrayList<>();
@@ -31,8 +33,7 @@ final class Due {
 
     void is(String call, long got, long want) {
         if (got != want) {
-            wrong++;
-            System.out.println("by '" + words + "': " + call + " answered " + got + ", due is " + want);
+            complain("by '" + words + "': ", call + " answered " + got + ", due is " + want);
         }
     }
 
@@ -42,8 +43,7 @@ final class Due {
 
     void is(String call, List<Long> got, List<Long> want) {
         if (!got.equals(want)) {
-            wrong++;
-            System.out.println("by '" + words + "': behind " + call + " there is " + got + ", due is " + want);
+            complain("by '" + words + "': ", "behind " + call + " there is " + got + ", due is " + want);
         }
     }
 
@@ -131,6 +131,10 @@ final class Due {
     private void complain(String of, String what) {
         wrong++;
         System.out.println(of + what);
+        if (wrong == ENOUGH) {
+            System.out.println("and so on");
+            System.exit(1);
+        }
     }
 
     private static boolean anyOf(boolean[] marks, int from, int to) {

@@ -150,6 +150,14 @@ final class EdgesOfLines {
         readingsOf(due, "word a 1;word aa 1;follows 0 1;follows 1 0;", "aaaaaa", 2);
         readingsOf(due, "word a 1;word b 1;follows 1 0;", "ab", 0);
         readingsOf(due, "word a 1;word b 1;follows 1 0;", "ba", 1);
+        String ten = EdgesOfTexts.tenOfTwo("aa", "bd");
+        readingsOf(due, ten, "aaa", 0);
+        readingsOf(due, ten, "bdaa", 1);
+        readingsOf(due, ten, "aabdaabdaabd", 1);
+        readingsOf(due, ten + "follows 9 0;", "bdaa", 1);
+        readingsOf(due, ten + "follows 9 0;", "aabd", 0);
+        readingsOf(due, EdgesOfTexts.tenOfTwo("aaa", "aa"), "aaaaa", 2);
+        readingsOf(due, EdgesOfTexts.tenOfTwo("bbb", "bd"), "bbbbb", 2);
     }
 
     private static void firstReading(Due due) {
@@ -271,6 +279,16 @@ final class EdgesOfLines {
         nextOf(due, "word aa 1;word b 1;follows 0 1;", "aaaa", 2, NONE);
         nextOf(due, "word aa 1;word b 1;follows 0 1;", "f", 2, 1);
         nextOf(due, "", "a", 2, NONE);
+        String ten = EdgesOfTexts.tenOfTwo("aa", "bd");
+        nextOf(due, ten, "a", 2, NONE);
+        nextOf(due, ten, "aa", 2, 0);
+        nextOf(due, ten, "aaa", 2, NONE);
+        nextOf(due, ten, "bdf", 2, NONE);
+        nextOf(due, ten, "afbf", 2, 1);
+        nextOf(due, ten, "ffcaf", 2, NONE);
+        nextOf(due, ten, "cfcfcfcfcfcf", 2, 6);
+        nextOf(due, EdgesOfTexts.tenOfTwo("aaa", "bd"), "aabba", 2, 1);
+        nextOf(due, EdgesOfTexts.tenOfTwo("aa", "bbb"), "bbbbb", 2, 0);
     }
 
     private static void echoOf(Due due, String first, String second, int many, int where) {

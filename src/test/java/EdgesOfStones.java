@@ -82,11 +82,32 @@ final class EdgesOfStones {
         state(due, x, 12, 148, -2);
         state(due, x, 12, 248, -2);
         state(due, x, 12, 135, -2);
+        nextToFullStones(due);
         stop(due, "word b 1;", Say.repeat("frost 0 b;moss 0;", 11), 22);
         stop(due, "word b 1;", Say.repeat("frost 0 b;moss 0;", 12), 24);
         stop(due, "word b 1;", Say.repeat("frost 0 b;moss 0;", 12) + "frost 0 b;", 24);
         stop(due, "", Say.repeat("forge 0 a;", 12) + Say.repeat("forge 1 a;", 12), 24);
         stop(due, "", Say.repeat("forge 0 a;", 12) + "chip 0;forge 0 a;forge 0 a;", 14);
+    }
+
+    /** A full STONE between two others: none of them has to do with its neighbours' first and last LETTERS. */
+    private static void nextToFullStones(Due due) {
+        for (int s = 0; s < 4; s++) {
+            String full = Say.repeat("forge # f;", 12).replace("#", "" + s);
+            FrostReplies x = century(due, "stones 4;" + SIX, full + "frost 0 a;frost 1 a;frost 2 a;frost 3 a;".replace("frost " + s + " a;", ""));
+            for (int other = 0; other < 4; other++) {
+                boolean same = other == s;
+                state(due, x, 15, 10 + other, same ? 12 : 1);
+                state(due, x, 15, 20 + other, same ? 12 : 1);
+                state(due, x, 15, 50 + other, same ? 0 : 1);
+                state(due, x, 15, 60 + other, same ? 12 : 0);
+                state(due, x, 15, 100 + 12 * other, same ? 5 : 0);
+                state(due, x, 15, 200 + 12 * other, same ? 5 : 9);
+                state(due, x, 15, 111 + 12 * other, same ? 5 : -2);
+                state(due, x, 15, 211 + 12 * other, same ? 5 : -2);
+            }
+            due.is("feigned, " + s + " alone", x.after(0, 0, 3), 1 << s);
+        }
     }
 
     private static void open(Due due) {

@@ -197,6 +197,34 @@ final class EdgesOfTape {
         due.is("nothing is left of its stones", x.hill(0, 0), 2);
         due.is("nor of its follows", x.hill(0, 30), 3);
         due.is("nor of its answers", x.hill(0, 43), 0);
+        due.instead(x, Say.HILL, "word c 2;word d 2;follows 1 0;asks 2 0;");
+        due.is("nor of follows ahead of these", x.hill(0, 30), 0);
+        due.is("nor of answers ahead of these", x.hill(0, 43), 0);
+        fewerWords(due);
+    }
+
+    /** WORDS that were told ahead, and are not there any more, have no part in anything. */
+    private static void fewerWords(Due due) {
+        FrostReplies x = due.hillAnd("word c 1;word a 1;word ab 1;word cc 1;", Say.LINES, "line a;line ab;line cc;");
+        due.instead(x, Say.HILL, "word a 1;");
+        due.is("none alike", x.hill(0, 1), 1);
+        due.is("a is said by one", x.said(0, 0, 0, 0), 1);
+        due.is("ab by none", x.said(0, 0, 1, 0), 0);
+        due.is("cc by none", x.said(0, 0, 2, 0), 0);
+        due.is("a whole word", x.ghost(0, true), NONE);
+        due.instead(x, Say.HILL, "word ab 1;");
+        due.is("a is no word there", x.ghost(0, true), 0);
+        due.is("ab by one", x.said(0, 0, 1, 0), 1);
+        due.is("nothing behind it", x.next(0, 0, 1, 0), 0);
+        due.is("one word alone", x.tree(0, 0), NONE);
+        due.is("a, ab", x.tree(0, 2), 2);
+        due.instead(x, Say.HILL, "word cc 1;word ab 1;word a 1;");
+        due.is("three words", x.sentences(0, 1), 3);
+        due.is("cc by one", x.said(0, 0, 2, 0), 1);
+        due.is("no row is read twice", x.twice(0), NONE);
+        due.instead(x, Say.HILL, "");
+        due.is("no words", x.said(0, 0, 0, 0), 0);
+        due.is("none to end", x.ghost(0, false), 0);
     }
 
     private static void faultyTexts(Due due) {

@@ -52,6 +52,11 @@ final class EdgesOfTexts {
         return s.toString();
     }
 
+    /** Ten WORDS of two LETTERS, of which some may be told in another way. */
+    static String tenOfTwo(String first, String last) {
+        return "word " + first + " 1;word ab 1;word ac 1;word ad 1;word ae 1;word af 1;word ba 1;word bb 1;word bc 1;word " + last + " 1;";
+    }
+
     private static void stones(Due due) {
         due.by("A HILL has STONES, 1 .. 4 (2 at first), from 0 on");
         due.is("stones at first", due.hill("").hill(0, 0), 2);

@@ -129,6 +129,18 @@ final class EdgesOfWords {
         twiceOf(due, "word abc 1;word ab 1;word cdef 1;word de 1;word f 1;", 6);
         twiceOf(due, "word abc 1;word ab 1;word cde 1;word df 1;", NONE);
         twiceOf(due, "word abcdef 1;word abc 1;word defabc 1;word def 1;follows 0 1;follows 1 2;", 9);
+        twiceOf(due, EdgesOfTexts.words(10), 2);
+        twiceOf(due, EdgesOfTexts.tenOfTwo("aa", "bd"), NONE);
+        twiceOf(due, EdgesOfTexts.tenOfTwo("aaa", "aa"), 5);
+        twiceOf(due, EdgesOfTexts.tenOfTwo("aa", "aaa"), 5);
+        twiceOf(due, EdgesOfTexts.tenOfTwo("aa", "aab"), 6);
+        twiceOf(due, EdgesOfTexts.tenOfTwo("aab", "b"), 2);
+        twiceOf(due, EdgesOfTexts.tenOfTwo("c", "bdc"), NONE);
+        twiceOf(due, EdgesOfTexts.tenOfTwo("dc", "bbd"), NONE);
+        twiceOf(due, EdgesOfTexts.tenOfTwo("dc", "bcd") + "follows 9 0;", NONE);
+        twiceOf(due, EdgesOfTexts.tenOfTwo("c", "bbc") + "follows 7 0;", 3);
+        twiceOf(due, EdgesOfTexts.tenOfTwo("bbc", "c") + "follows 7 9;", 3);
+        twiceOf(due, EdgesOfTexts.tenOfTwo("bbc", "c") + "follows 9 7;", NONE);
         String alone = "follows 0 0;follows 1 1;";
         twiceOf(due, "word aaaaa 1;word aaaa 1;" + alone, 20);
         twiceOf(due, "word aaaaaa 1;word aaaaa 1;" + alone, NONE);
@@ -170,6 +182,10 @@ final class EdgesOfWords {
         // ab is whole, so nobody comes to abc
         ghostOf(due, "word abc 1;word ab 1;", 0);
         ghostOf(due, "word aaaaaa 1;word aaaaab 1;word aaaaac 1;word aaaaad 1;word aaaaae 1;word aaaaaf 1;", 0);
+        ghostOf(due, EdgesOfTexts.words(10), NONE);
+        ghostOf(due, EdgesOfTexts.tenOfTwo("aa", "bd"), 0);
+        ghostOf(due, EdgesOfTexts.tenOfTwo("a", "b"), NONE);
+        ghostOf(due, EdgesOfTexts.tenOfTwo("a", "bd"), 1);
         // the second one has both: c leads to acd, d to adef
         ghostOf(due, "word adef 1;word acd 1;word b 1;", NONE);
     }
