@@ -115,10 +115,32 @@ final class EdgesOfRefusals {
         FrostReplies x = world(true, TAPE);
         due.is(name, call.of(x), want);
         due.is(name, seen(x), seenAtFirst);
-        // and once more on the same object: it is refused as before
+        // and on an object that has just been asked everything else: nothing of these answers is left
         FrostReplies y = world(true, TAPE);
-        due.is(name + ", once", call.of(y), want);
-        due.is(name + ", twice", call.of(y), want);
+        askAll(y);
+        due.is(name + ", asked late", call.of(y), want);
+        due.is(name + ", asked twice", call.of(y), want);
+    }
+
+    private static void askAll(FrostReplies x) {
+        x.forged(0, 1);
+        x.age(0, true);
+        x.after(0, 0, 2);
+        x.drawn(0, 1, 60, 10);
+        x.state(0, 0, 4, 10);
+        x.sentences(0, 6);
+        x.twice(0);
+        x.ghost(0, true);
+        x.chain(0, 1);
+        x.tree(0, 0);
+        x.alike(0, 0, 1, true);
+        x.echo(0, 0, 1, true);
+        x.slips(0, 0, 0, 1);
+        x.reading(0, 0, 0, 0);
+        x.next(0, 0, 0, 2);
+        x.odds(0, 0, 0, 1, true);
+        x.sure(0, 0, 0, true);
+        x.said(0, 0, 0, 1);
     }
 
     private void noHill() {

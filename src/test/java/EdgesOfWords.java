@@ -141,6 +141,10 @@ final class EdgesOfWords {
         twiceOf(due, EdgesOfTexts.tenOfTwo("c", "bbc") + "follows 7 0;", 3);
         twiceOf(due, EdgesOfTexts.tenOfTwo("bbc", "c") + "follows 7 9;", 3);
         twiceOf(due, EdgesOfTexts.tenOfTwo("bbc", "c") + "follows 9 7;", NONE);
+        // behind a and b, none begins with the LETTER that the longer one has there
+        twiceOf(due, "word a 1;word cc 1;word cd 1;word ce 1;word ca 1;word ab 1;word db 1;word dc 1;word dd 1;word de 1;", NONE);
+        twiceOf(due, "word cc 1;word cd 1;word ce 1;word db 1;word ab 1;word ca 1;word dc 1;word dd 1;word de 1;word a 1;", NONE);
+        twiceOf(due, "word bcd 1;word b 1;word a 1;word da 1;word db 1;word dc 1;word dd 1;word de 1;word df 1;word e 1;", NONE);
         String alone = "follows 0 0;follows 1 1;";
         twiceOf(due, "word aaaaa 1;word aaaa 1;" + alone, 20);
         twiceOf(due, "word aaaaaa 1;word aaaaa 1;" + alone, NONE);
